@@ -932,6 +932,7 @@ public final class HeirRoll {
         }
 
         private void sortIn(int p) {
+            if (size >= MOST_PERSONS) return;
             int i = size;
             while (i > 0 && people.isElder(p, byAge[i - 1])) {
                 byAge[i] = byAge[i - 1];

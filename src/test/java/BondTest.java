@@ -153,6 +153,11 @@ public final class BondTest {
         Told.due("partner", u.x.partner(0, 6000), 3);
         Told v = four().with("wed 7000 0 1");
         v.breaks("wed 5000 0 3", 7);
+        // the last day of the one the first of the other, whichever is told first
+        Told w = four().with("dead 6500 2", "wed 6500 0 3");
+        w.breaks("wed 5000 2 3", 7);
+        Told x = four().with("dead 6500 2", "wed 5000 2 3");
+        x.breaks("wed 6500 0 3", 7);
     }
 
     private static void titles() {

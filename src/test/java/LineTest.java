@@ -114,6 +114,13 @@ public final class LineTest {
         // 2, 3 are one away; 5, 8, 9 are two; 7 is three
         t.line(0, 20001, 0, 2, 3, 5, 8, 9, 7);
         t.line(0, 20000, 0, 2, 3, 5, 8, 7);
+        // the nearer parent told behind the farther one
+        Told u = new Told().with(MAN, WOMAN, "wed 4000 0 1", "born 4000 male of 0 and 1", WOMAN, "wed 8000 2 3",
+                "born 9000 female of 2 and 3", "born 9500 male of 0 and 1", "wed 13500 5 4", "born 14000 male of 5 and 4",
+                "born 13999 female of 5 and 4", "title 100 0 near");
+        u.line(0, 14000, 0, 2, 5, 4, 7, 6);
+        u.taken("born 13400 male of none and 4");
+        u.line(0, 14000, 0, 2, 5, 4, 7, 6);
     }
 
     private static void maleRoots() {

@@ -99,6 +99,13 @@ public final class RecordTest {
             Told u = couple().with("born 5000 male of 0 and 1", "title 6000 2 writ", kind);
             u.refused("title named by " + kind, u.x.strike(4), 6);
         }
+        Told w = new Told().with("born 0 male of none and none", "born 0 female of none and none",
+                "born 5000 male of 0 and none", "born 5000 male of none and 1");
+        w.refused("a father alone", w.x.strike(0), 6);
+        w.refused("a mother alone", w.x.strike(1), 6);
+        Told y = couple();
+        y.refused("a husband", y.x.strike(0), 6);
+        y.refused("a wife", y.x.strike(1), 6);
         Told v = new Told().with("born 0 male of none and none", "title 0 0 mixed", "title 0 0 equal");
         Told.due("a title named by no other", v.x.strike(2), 2);
         v.refused("its person is named", v.x.strike(0), 6);

@@ -113,6 +113,9 @@ public final class TextTest {
         wrong(t, "b", 0);
         wrong(t, " borne 1 male of none and none", 1);
         wrong(t, "bornmale", 0);
+        wrong(t, "bornz 1 male of none and none", 0);
+        wrong(t, "borna 1 male of none and none", 0);
+        wrong(t, "born 10000000000000000000 male of none and none", 5);
         wrong(t, "12 born", 0);
         wrong(t, "born", 4);
         wrong(t, "born  ", 6);

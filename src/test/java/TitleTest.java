@@ -76,6 +76,10 @@ public final class TitleTest {
         // what is told while it is lost moves nothing, and its back gives it to the first in the line
         Told u = sons().with("title 6000 3 mixed", "lost 6100 0", "yield 6200 3 0", "back 6300 0");
         u.tenures(0, 3, 6000, -3, 6100, -1, 6300);
+        // given back once, it passes on no later day by that
+        Told w = new Told().with(MAN, WOMAN, "wed 4000 0 1", "born 6000 female of 0 and 1", "title 6500 0 mixed",
+                "yield 7000 0 0", "lost 7100 0", "back 7200 0", "born 7300 male of 0 and 1", "dead 7400 1");
+        w.tenures(0, 0, 6500, 2, 7000, -3, 7100, 2, 7200);
         // a holder who got it ahead of an elder in the line does not get it back: the first does
         Told v = new Told().with(MAN, WOMAN, "wed 4000 0 1", "born 6000 female of 0 and 1", "title 6500 0 mixed",
                 "dead 7000 0", "born 7100 male of 0 and 1", "lost 7200 0", "back 7300 0");
