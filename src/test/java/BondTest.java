@@ -15,8 +15,8 @@ public final class BondTest {
         Told.finish("BondTest");
     }
 
-    private static final String MAN = "born 0 male of none and none";
-    private static final String WOMAN = "born 0 female of none and none";
+    private static final String MAN = Told.MAN;
+    private static final String WOMAN = Told.WOMAN;
 
     private static Told four() {
         return new Told().with(MAN, WOMAN, MAN, WOMAN);

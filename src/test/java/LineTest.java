@@ -1,7 +1,7 @@
 /** Promises 15 and 16: the order of the line by each rule, and who is in it. */
 public final class LineTest {
-    private static final String MAN = "born 0 male of none and none";
-    private static final String WOMAN = "born 0 female of none and none";
+    private static final String MAN = Told.MAN;
+    private static final String WOMAN = Told.WOMAN;
     private static final String[] RULES = {"male", "mixed", "equal", "last", "near", "writ"};
 
     public static void main(String[] args) {

@@ -9,8 +9,8 @@ public final class PersonTest {
         Told.finish("PersonTest");
     }
 
-    private static final String MAN = "born 0 male of none and none";
-    private static final String WOMAN = "born 0 female of none and none";
+    private static final String MAN = Told.MAN;
+    private static final String WOMAN = Told.WOMAN;
 
     private static Told couple() {
         return new Told().with(MAN, WOMAN, "wed 5000 0 1");

@@ -1,7 +1,7 @@
 /** Promises 13, 14, 17 to 20: how titles pass, are lost, fall into abeyance and are called out of it. */
 public final class TitleTest {
-    private static final String MAN = "born 0 male of none and none";
-    private static final String WOMAN = "born 0 female of none and none";
+    private static final String MAN = Told.MAN;
+    private static final String WOMAN = Told.WOMAN;
 
     public static void main(String[] args) {
         plainPassing();

@@ -1,6 +1,9 @@
 /** A roll to which records are told as texts, with answers held against those that are due. */
 final class Told {
+    static final String MAN = "born 0 male of none and none";
+    static final String WOMAN = "born 0 female of none and none";
     static int wrong = 0;
+    private static String sentence = "";
     final HeirRoll x = new HeirRoll();
 
     /** Tells a text in as few feeds as it takes; ends the tape only where blanks behind are not wanted. */
@@ -40,16 +43,21 @@ final class Told {
         for (String text : texts) {
             if (tell(text) == HeirRoll.BAD) {
                 wrong++;
-                System.out.println("not taken: '" + text + "', status " + x.status() + ", bond " + x.bond());
+                System.out.println("not taken: '" + text + "', status " + x.status() + ", bond " + x.bond() + sentence);
             }
         }
         return this;
     }
 
+    /** The sentence of the document that the answers behind it are asked for. */
+    static void sentence(String words) {
+        sentence = " (" + words + ")";
+    }
+
     static void due(String what, int got, int want) {
         if (got == want) return;
         wrong++;
-        System.out.println(what + " answered " + got + ", due is " + want);
+        System.out.println(what + " answered " + got + ", due is " + want + sentence);
     }
 
     /** A call that must be refused for a reason. */
