@@ -764,7 +764,7 @@ public final class HeirRoll {
             for (int i = 0; i < MOST_PERSONS; i++) {
                 births[i] = i == p ? 0 : NONE;
             }
-            for (int i = p; i >= 0; i--) {
+            for (int i = MOST_PERSONS - 1; i >= 0; i--) {
                 if (births[i] == NONE) continue;
                 lower(births, fathers[i], births[i] + 1);
                 lower(births, mothers[i], births[i] + 1);
@@ -949,7 +949,7 @@ public final class HeirRoll {
                 for (int i = 0; i < size; i++) {
                     int kid = byAge[i];
                     boolean isTheirs = people.father(kid) == p || people.mother(kid) == p;
-                    if (legit[kid] && isTheirs && n < kids.length) kids[n++] = kid;
+                    if (isLegit(kid) && isTheirs && n < kids.length) kids[n++] = kid;
                 }
             }
             kidsFrom[MOST_PERSONS] = n;
@@ -959,8 +959,8 @@ public final class HeirRoll {
         private void gatherBodies() {
             for (int p = MOST_PERSONS - 1; p >= 0; p--) {
                 long body = 1L << p;
-                for (int i = kidsFrom[p]; i < kidsFrom[p + 1]; i++) {
-                    body |= bodies[kids[i]];
+                for (int i = 0; i < kidCount(p); i++) {
+                    body |= body(kid(p, i));
                 }
                 bodies[p] = body;
             }

@@ -232,16 +232,26 @@ public final class CallEdges {
         t.x.status();
         Told.due("status behind place, bond and status", t.x.status(), 5);
         HeirRoll x = t.x;
-        List<ToIntFunction<HeirRoll>> calls = List.of(r -> r.feed(0, 0, 0, 0, 0), r -> r.end(0), r -> told(r, "dead 9300 1"),
-                r -> r.strike(18), r -> r.count(0), r -> r.fact(0, 0), r -> r.person(0, 0), r -> r.partner(0, 0), r -> r.kin(0, 0),
-                r -> r.holder(0, 0), r -> r.since(0, 0), r -> r.line(0, 6000, 0), r -> r.rank(0, 0, 0), r -> r.coheir(0, 7000, 0),
-                r -> r.tenures(0), r -> r.tenure(0, 0, 0), r -> r.holds(0, 6000, 0));
-        for (int i = 0; i < calls.size(); i++) {
-            t.refused("count", x.count(-1), 3);
-            boolean isRefused = calls.get(i).applyAsInt(x) == HeirRoll.BAD;
-            Told.due("refused, call " + i, isRefused ? 1 : 0, 0);
-            Told.due("status of call " + i, x.status(), 0);
+        List<ToIntFunction<HeirRoll>> calls = List.of(r -> r.kin(0, 0), r -> r.partner(0, 0), r -> r.holder(0, 0),
+                r -> r.since(0, 0), r -> r.line(0, 6000, 0), r -> r.rank(0, 0, 0), r -> r.coheir(0, 7000, 0), r -> r.tenures(0),
+                r -> r.tenure(0, 0, 0), r -> r.tenure(0, 0, 1), r -> r.holds(0, 6000, 0), r -> r.strike(16), r -> r.strike(15));
+        for (int i = 0; i < calls.size(); i++) acceptedBehindARefusal(t, "call " + i, calls.get(i));
+        for (int i = 0; i < 6; i++) {
+            int what = i;
+            if (i < 5) acceptedBehindARefusal(t, "count " + i, r -> r.count(what));
+            if (i < 5) acceptedBehindARefusal(t, "fact " + i, r -> r.fact(0, what));
+            acceptedBehindARefusal(t, "person " + i, r -> r.person(2, what));
         }
+        acceptedBehindARefusal(t, "feed", r -> r.feed(0x64656164, 0x39333030, 0x20312020, 0x20202020, 0x20202020));
+        acceptedBehindARefusal(t, "end", r -> r.end(12));
+        acceptedBehindARefusal(t, "record", r -> r.record());
+        Told.due("dead", x.person(1, 4), 9300);
+    }
+
+    private static void acceptedBehindARefusal(Told t, String what, ToIntFunction<HeirRoll> call) {
+        t.refused("count(-1)", t.x.count(-1), 3);
+        Told.due("refused, " + what, call.applyAsInt(t.x) == HeirRoll.BAD ? 1 : 0, 0);
+        Told.due("status of " + what, t.x.status(), 0);
     }
 
     /** Every number at the ends of what an int can be, for every argument, on an empty roll and a rich one. */

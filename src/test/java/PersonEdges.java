@@ -18,6 +18,8 @@ public final class PersonEdges {
         onceInTheLine();
         yielded();
         fullLine();
+        fullLineOfBothParents();
+        lastPerson();
         longestDescent();
         persons();
         partners();
@@ -157,6 +159,12 @@ public final class PersonEdges {
         t.holder(1, 9000, -1);
         t.holder(2, 9000, -1);
         t.holder(1, 8999, 1);
+        // the person 0, too, holds what she can't stand in the line of
+        Told u = new Told().with(WOMAN, "title 0 0 male", MAN, "dead 50 1");
+        u.line(0, 60);
+        u.tenures(0, 0, 0);
+        u.taken("dead 60 0");
+        u.tenures(0, 0, 0, -1, 60);
     }
 
     private static void age() {
@@ -199,11 +207,21 @@ public final class PersonEdges {
                 "born 15999 male of 4 and 5", "born 16001 male of 4 and 5", "title 4000 2 near");
         Told.due("half brothers", t.x.kin(2, 7), 2);
         t.line(0, 16001, 2, 4, 6, 8, 9, 7);
-        // by both parents the shorter way counts: 7 by his father is two births away, by his mother three
+        // 8 is by his father 5 two births away, by his mother 4 three; 7, his older half brother, three
         Told u = couple().with("born 4000 male of 0 and 1", WOMAN, "wed 8000 2 3", "born 8000 female of 2 and 3",
-                "born 8001 male of 0 and 1", "wed 12001 5 4", "born 12001 male of 5 and 4", "born 12000 male of none and 4",
-                "title 0 0 near");
-        u.line(0, 13000, 0, 2, 5, 4, 6);
+                "born 8001 male of 0 and 1", MAN, "wed 12000 6 4", "born 12000 male of 6 and 4", "part 12001 6 4", "wed 12001 5 4",
+                "born 12001 male of 5 and 4", "title 0 0 near");
+        u.line(0, 13000, 0, 2, 5, 4, 8, 7);
+        // and the other way round: 8 by his mother 5 two, by his father 4 three
+        Told v = couple().with("born 4000 male of 0 and 1", WOMAN, "wed 8000 2 3", "born 8000 male of 2 and 3",
+                "born 8001 female of 0 and 1", WOMAN, "wed 12000 4 6", "born 12000 male of 4 and 6", "part 12001 4 6", "wed 12001 4 5",
+                "born 12001 male of 4 and 5", "title 0 0 near");
+        v.line(0, 13000, 0, 2, 5, 4, 8, 7);
+        // and with the lesser number nearer: 8 by his father 3 two, by his mother 5 three
+        Told w = couple().with("born 4000 male of 0 and 1", "born 8001 male of 0 and 1", WOMAN, "wed 8000 2 4",
+                "born 8000 female of 2 and 4", MAN, "wed 12000 6 5", "born 12000 male of 6 and 5", "part 12001 6 5", "wed 12001 3 5",
+                "born 12001 male of 3 and 5", "title 0 0 near");
+        w.line(0, 13000, 0, 2, 3, 5, 8, 7);
     }
 
     private static void onceInTheLine() {
@@ -249,6 +267,14 @@ public final class PersonEdges {
         t.tellPadded("wed4000 0 1");
         for (int i = 2; i < 64; i++) t.tellPadded("born" + (5000 + i) + "male of0and1");
         for (String rule : RULES) t.tellPadded("title0 0" + rule);
+        t.tellPadded("title0 1near");
+        t.tellPadded("title0 1mixed");
+        for (int title = 6; title < 8; title++) {
+            Told.due("the oldest son of his mother", t.x.line(title, 6000, 1), 2);
+            Told.due("the youngest son of his mother", t.x.line(title, 6000, 62), 63);
+        }
+        Told.due("kin", t.x.kin(63, 62), 2);
+        Told.due("kin", t.x.kin(0, 63), 1);
         for (int title = 0; title < 6; title++) {
             int youngest = title == 3 ? 1 : 62;
             Told.due("the oldest son", t.x.rank(title, 2, 6000), 63 - youngest);
@@ -263,6 +289,52 @@ public final class PersonEdges {
             t.holder(title, 6000, title == 3 ? 63 : 2);
             t.refused("behind the last", t.x.line(title, 6000, 62), 1);
         }
+    }
+
+    /** 0 weds his granddaughter 4; they have 59 sons, each of whom would stand in the line by her and by him. */
+    private static void fullLineOfBothParents() {
+        Told.sentence("who would stand in the LINE more than once stands where it comes first (64 PERSONS at most in all)");
+        Told t = new Told();
+        t.tellPadded("born0male of none and none");
+        t.tellPadded("born0female of none and none");
+        t.tellPadded("wed4000 0 1");
+        t.tellPadded("born4000male of0and1");
+        t.tellPadded("born0female of none and none");
+        t.tellPadded("wed8000 2 3");
+        t.tellPadded("born8000female of2and3");
+        t.tellPadded("part12000 0 1");
+        t.tellPadded("wed12000 0 4");
+        for (int i = 5; i < 64; i++) t.tellPadded("born" + (12000 + i) + "male of0and4");
+        for (String rule : RULES) t.tellPadded("title0 0" + rule);
+        Told.due("records", t.x.count(1), 74);
+        int[] due4 = {-1, 2, 2, 61, 61, 2};
+        int[] due5 = {2, 3, 3, 59, 2, 3};
+        int[] due63 = {60, 61, 61, 1, 60, 61};
+        for (int title = 0; title < 6; title++) {
+            Told.due("the granddaughter by " + RULES[title], t.x.rank(title, 4, 13000), due4[title]);
+            Told.due("the oldest son of both by " + RULES[title], t.x.rank(title, 5, 13000), due5[title]);
+            Told.due("the youngest son of both by " + RULES[title], t.x.rank(title, 63, 13000), due63[title]);
+            int n = title == 0 ? 61 : 62;
+            Told.due("the last", t.x.rank(title, t.x.line(title, 13000, n - 1), 13000), n - 1);
+            t.refused("behind the last", t.x.line(title, 13000, n), 1);
+        }
+    }
+
+    /** The last number that a person can have, 63, is an heir like any other. */
+    private static void lastPerson() {
+        Told.sentence("PERSONS: 64 at most in all");
+        Told t = new Told();
+        t.tellPadded("born0male of none and none");
+        t.tellPadded("born0female of none and none");
+        t.tellPadded("wed4000 0 1");
+        for (int i = 2; i < 63; i++) t.tellPadded("born0male of none and none");
+        t.tellPadded("born5000female of0and1");
+        for (String rule : RULES) t.tellPadded("title0 0" + rule);
+        t.tellPadded("dead6000 0");
+        for (int title = 0; title < 6; title++) t.holder(title, 6000, title == 0 ? -1 : 63);
+        Told.due("kin(63, 0)", t.x.kin(63, 0), 1);
+        Told.due("kin(1, 63)", t.x.kin(1, 63), 1);
+        t.person(63, 0, 5000, 0, 1, -1, 1);
     }
 
     /** Twenty-four births, one below the other, 4000 days apart: the most that the days have room for. */

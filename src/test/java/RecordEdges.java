@@ -337,6 +337,13 @@ public final class RecordEdges {
         v.breaks("wed 6000 2 1", 7);
         v.taken("wed 6001 2 1");
         v.strikeBreaks(5, 7);
+        // one that is over ahead of the other, told behind it
+        Told x = four().with("dead 6000 3", "wed 6001 0 1");
+        x.taken("wed 5000 0 3");
+        Told.due("partner(0, 6000)", x.x.partner(0, 6000), 3);
+        Told.due("partner(0, 6001)", x.x.partner(0, 6001), 1);
+        Told y = four().with("dead 6000 3", "wed 6000 0 1");
+        y.breaks("wed 5000 0 3", 7);
         // one day is enough, by the day of a wed and by the last day of all
         Told w = four().with("wed 99999 0 1");
         w.breaks("wed 99999 0 3", 7);
@@ -411,6 +418,13 @@ public final class RecordEdges {
         t.strikeBreaks(4, 9);
         t.strikeBreaks(5, 9);
         Told.due("the last of them", t.x.strike(6), 6);
+        // those of another title take turns by themselves
+        Told v = new Told().with(MAN, "title 100 0 male", "title 100 0 male", "lost 200 0");
+        v.taken("lost 200 1");
+        v.breaks("lost 201 1", 9);
+        v.taken("back 201 1");
+        v.taken("back 201 0");
+        v.taken("lost 202 1");
         // told the later first: a pair between a lost and the next back fits in, one of them at a time does not
         Told u = new Told().with(MAN, "title 100 0 male", "lost 300 0");
         u.breaks("lost 200 0", 9);
@@ -458,6 +472,11 @@ public final class RecordEdges {
         Told.due("partner(1, 7000)", t.x.partner(1, 7000), 0);
         Told.due("partner(1, 7001)", t.x.partner(1, 7001), -1);
         Told.due("partner(3, 7000)", t.x.partner(3, 7000), -1);
+        Told.sentence("OPEN: the part of the two: that of another two ends nothing");
+        Told w = four().with("wed 5000 0 1", "wed 5000 2 3", "part 6000 2 3");
+        Told.due("partner(0, 6000)", w.x.partner(0, 6000), 1);
+        Told.due("partner(2, 6000)", w.x.partner(2, 6000), -1);
+        Told.due("partner(3, 5999)", w.x.partner(3, 5999), 2);
         Told.sentence("the part of the two that comes next by DAYS: one on the wed's own DAY is of the UNION ahead of it");
         Told u = couple().with("wed 5000 0 1", "part 6000 0 1", "wed 6000 0 1");
         Told.due("partner(0, 6000)", u.x.partner(0, 6000), 1);

@@ -101,6 +101,10 @@ public final class TitleEdges {
                 .tenures(0, 0, 6000, 2, 6100, 3, 6200, -1, 6300, -3, 6500);
         sons("mixed").with("lost 6500 0", "back 6600 0", "lost 6601 0")
                 .tenures(0, 0, 6000, -3, 6500, 0, 6600, -3, 6601);
+        Told.sentence("a lost, a back, a yield of another TITLE moves nothing");
+        Told t = sons("mixed").with("title 6000 0 mixed", "lost 6500 1", "dead 7000 0", "back 7100 1", "yield 7200 2 1");
+        t.tenures(0, 0, 6000, 2, 7000);
+        t.tenures(1, 0, 6000, -3, 6500, 2, 7100, 3, 7200);
     }
 
     private static void back() {
@@ -140,6 +144,9 @@ public final class TitleEdges {
                 "born 7000 male of 0 and 1", "born 7001 male of 0 and 1");
         u.tenures(0, 0, 6000, 3, 7000);
         u.line(0, 7001, 3, 4, 2);
+        Told w = new Told().with(MAN, WOMAN, "wed 4000 0 1", "born 5000 female of 0 and 1", "title 6000 0 mixed", "yield 7000 0 0",
+                "born 7001 male of 0 and 1", "dead 7500 1", "yield 8000 2 0");
+        w.tenures(0, 0, 6000, 2, 7000, 3, 8000);
         Told v = new Told().with(MAN, WOMAN, "wed 4000 0 1", "born 5000 female of 0 and 1", "title 6000 0 mixed", "yield 7000 0 0",
                 "born 7001 male of 0 and 1");
         v.tenures(0, 0, 6000, 2, 7000);
@@ -241,7 +248,8 @@ public final class TitleEdges {
         daughters().with("dead 7000 0", "lost 7100 0", "back 7200 0", "call 7200 3 0")
                 .tenures(0, 0, 6000, -2, 7000, -3, 7100, 3, 7200);
         daughters().with("lost 6500 0", "dead 7000 0", "back 7200 0", "call 7200 3 0").tenures(0, 0, 6000, -3, 6500, 3, 7200);
-        daughters().with("title 6000 0 writ", "dead 7000 0", "call 7100 3 1").tenures(0, 0, 6000, -2, 7000);
+        // a call of another title, on a day on which somebody dies
+        daughters().with("title 6000 0 writ", MAN, "dead 7000 0", "call 7100 3 1", "dead 7100 5").tenures(0, 0, 6000, -2, 7000);
     }
 
     private static void callsOutOfAbeyance() {
