@@ -222,6 +222,19 @@ public final class PersonEdges {
                 "born 8000 female of 2 and 4", MAN, "wed 12000 6 5", "born 12000 male of 6 and 5", "part 12001 6 5", "wed 12001 3 5",
                 "born 12001 male of 3 and 5", "title 0 0 near");
         w.line(0, 13000, 0, 2, 3, 5, 8, 7);
+        // 6 is by his mother 4 three births away; the two by his father 5, who is not legit, are not within the body
+        Told x = couple().with("born 4000 male of 0 and 1", WOMAN, "wed 8000 2 3", "born 8000 female of 2 and 3",
+                "born 8001 male of 0 and none", "wed 12001 5 4", "born 12001 male of 5 and 4", "born 12100 male of 2 and 3",
+                "title 0 0 near");
+        Told.due("legit", x.x.person(6, 5), 1);
+        Told.due("by all births as they are told", x.x.kin(0, 6), 2);
+        x.line(0, 13000, 0, 2, 4, 7, 6);
+        // 8 is four births down from 0; her child 11 is by his father two, but one does not go up from him to her
+        Told y = couple().with("born 4000 male of 0 and 1", WOMAN, "wed 8000 2 3", "born 8000 male of 2 and 3", WOMAN,
+                "wed 12000 4 5", "born 12000 male of 4 and 5", WOMAN, "wed 16000 6 7", "born 16000 female of 6 and 7",
+                "born 16001 male of 0 and 1", "born 16500 male of 4 and 5", "wed 20001 9 8", "born 20001 male of 9 and 8",
+                "title 0 0 near");
+        y.line(0, 30000, 0, 2, 9, 4, 11, 6, 10, 8);
     }
 
     private static void onceInTheLine() {
